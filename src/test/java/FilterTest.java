@@ -224,6 +224,9 @@ public final class FilterTest {
         y.cell(0, 20, 10);
         Check.due("beyond 100,000", -1, y.push(0, 1000));
         Check.due("below", 100 * 10025 / 100, y.push(0, 100));
+        y.cell(0, 3, 10);
+        Check.due("898*11136/100 is 100,001", -1, y.push(0, 898));
+        Check.due("897*11136/100", 99889, y.push(0, 897));
     }
 
     /** The least push by trying every one, against a growing CAKE that presses more and more. */

@@ -7,7 +7,9 @@ public final class HoursTest {
         shares();
         grainsLeftOver();
         cake();
+        greatCakes();
         washes();
+        bearAtFirst();
         wear();
         restsAndChanges();
         letters();
@@ -141,6 +143,45 @@ public final class HoursTest {
         Check.due("its lower CELL is shut", 4, y.told(0, 0));
         Check.due("nothing more came to it", 50, y.held(0, 1, 3, 0));
         Check.due("round", 50, y.history(2, 3, 2));
+    }
+
+    /** Weight is 1 up to 1,000,000 of BED and CAKE, and 0 above. */
+    private static void greatCakes() {
+        ClogHouse x = new ClogHouse();
+        bed(x, 1, 1000);
+        x.set(0, 0, 1000);
+        x.stream(1);
+        x.come(7, 9999);
+        x.hours(99);
+        Check.due("1,000,000 by 999,901", 9999 * 99, x.told(0, 3));
+        bed(x, 1, 1000);
+        x.set(1, 0, 1000);
+        x.stream(300);
+        x.come(7, 0);
+        x.hours(1);
+        Check.due("1 of 101, cut, and one of what is left over", 3, x.told(0, 6));
+        Check.due("100 of 101", 297, x.told(1, 6));
+        x.hand(1, 1);
+        x.stream(1);
+        x.come(7, 9999);
+        x.hours(1);
+        Check.due("its share", 1, x.told(0, 6));
+        Check.due("with BED above a million", 9999 * 100, x.told(0, 3));
+        x.hours(1);
+        Check.due("weight 0: no share", 0, x.told(0, 6));
+        Check.due("but it is not SHUT", 1, x.told(0, 0));
+        Check.due("all go ROUND", 9999, x.history(102, 7, 2));
+    }
+
+    private static void bearAtFirst() {
+        ClogHouse x = new ClogHouse();
+        bed(x, 5, 5);
+        x.rule(0, Check.rulesOf(x, "w:1;u:500"));
+        x.hours(1);
+        Check.due("500 is borne", 5, x.celled(0, 0, 0));
+        x.rule(0, Check.rulesOf(x, "w:1;u:501"));
+        x.hours(1);
+        Check.due("501 is not", 6, x.celled(0, 0, 0));
     }
 
     private static void washes() {

@@ -160,26 +160,26 @@ public final class ReckonTest {
         return broke == -1 ? 100 : Math.min(100, broke - 1);
     }
 
-    /** What is told anew counts at once. */
+    /** What is told anew counts at once, with the same m as before. */
     private static void promise26Forgets() {
         ClogHouse x = new ClogHouse();
         x.layer(8, 100);
         x.stream(10);
         x.come(2, 50);
-        Check.due("some come out", 0, x.order(40, -1));
+        Check.due("49 come out", 0, x.order(42, -1));
         x.grain(2, 0, 1000);
-        Check.due("STICK holds more", 1, x.order(42, -1) > 0 ? 1 : 0);
-        int before = x.order(42, -1);
-        x.come(2, 40);
-        Check.due("fewer come", 100, x.order(42, -1));
-        x.come(2, 50);
-        Check.due("as before", before, x.order(42, -1));
-        Check.due("42 of 50 come out at first", 0, x.order(41, -1));
+        Check.due("STICK holds more", 100, x.order(42, -1));
+        x.come(2, 60);
+        Check.due("more come", 0, x.order(42, -1));
         x.layer(2, 1000);
-        Check.due("one more layer", 100, x.order(41, -1));
-        Check.due("wherever it lies", 0, x.order(41, 0));
+        Check.due("one more layer", 100, x.order(42, -1));
+        Check.due("wherever it lies", 0, x.order(42, 0));
         x.hours(5);
-        Check.due("no HOUR changes it", 100, x.order(41, -1));
+        Check.due("no HOUR changes it", 100, x.order(42, -1));
+        x.stream(1000);
+        Check.due("the push becomes too great", 1, x.order(42, -1) < 100 ? 1 : 0);
+        x.stream(10);
+        Check.due("not with less", 100, x.order(42, -1));
     }
 
     private static void promise27() {

@@ -105,6 +105,8 @@ public final class RulesTest {
         fault("w:1]", 3);
         fault("w:1\t", 3);
         fault("w:1" + (char) 233, 3);
+        fault("w:1" + (char) 1, 3);
+        fault((char) 1 + "", 0);
     }
 
     private static void promise12Depth() {
@@ -120,6 +122,8 @@ public final class RulesTest {
         fault("w:![1]=[[[[[[1]]]]]]?1", 12);
         fault("w:!1=1&!!!!!!1=1?1", -1);
         fault("w:[1]*[[[[[[1]]]]]]-[1]", -1);
+        fault("w:1=[[[[[[1]]]]]]?1", -1);
+        fault("w:1=[[[[[[[1]]]]]]]?1", 10);
     }
 
     private static void promise13() {
