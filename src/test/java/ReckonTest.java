@@ -112,30 +112,54 @@ public final class ReckonTest {
 
     /** Against FILTERS of each order that RUN alone in a house of their own. */
     private static void promise26Longest() {
-        int[][] layers = {{9, 40}, {4, 25}, {6, 30}, {12, 15}};
+        int[][] four = {{9, 40}, {4, 25}, {6, 30}, {12, 15}};
         for (int m = 0; m <= 120; m += 10) {
-            ClogHouse x = new ClogHouse();
-            tellStream(x);
-            for (int[] layer : layers) {
-                x.layer(layer[0], layer[1]);
+            longest(four, m);
+        }
+        int[][] six = {{9, 40}, {12, 15}, {6, 30}, {4, 25}, {20, 3}, {7, 60}};
+        longest(six, 20);
+        longest(six, 40);
+        longest(six, 60);
+        int[][] turned = {{7, 60}, {20, 3}, {4, 25}, {6, 30}, {12, 15}, {9, 40}};
+        longest(turned, 20);
+        longest(turned, 40);
+        longest(turned, 60);
+    }
+
+    private static void longest(int[][] layers, int m) {
+        ClogHouse x = new ClogHouse();
+        tellStream(x);
+        for (int[] layer : layers) {
+            x.layer(layer[0], layer[1]);
+        }
+        int[] best = new int[layers.length + 1];
+        best[layers.length] = -1;
+        tryOrders(layers, new int[layers.length], 0, m, best);
+        Check.due("the most hours, m " + m, best[layers.length], x.order(m, -1));
+        for (int i = 0; i < layers.length; i++) {
+            Check.due("its layer " + i + ", m " + m, best[i], x.order(m, i));
+        }
+    }
+
+    /** Keeps in best the order, and behind it its hours. */
+    private static void tryOrders(int[][] layers, int[] order, int depth, int m, int[] best) {
+        int n = layers.length;
+        if (depth == n) {
+            int hours = hoursOf(layers, order, m);
+            if (hours > best[n]) {
+                System.arraycopy(order, 0, best, 0, n);
+                best[n] = hours;
             }
-            int most = -1;
-            int[] best = new int[4];
-            for (int code = 0; code < 256; code++) {
-                int[] order = {code / 64, code / 16 % 4, code / 4 % 4, code % 4};
-                int seen = 0;
-                for (int l : order) {
-                    seen |= 1 << l;
-                }
-                int hours = seen == 15 ? hoursOf(layers, order, m) : -1;
-                if (hours > most) {
-                    most = hours;
-                    best = order;
-                }
+            return;
+        }
+        for (int l = 0; l < n; l++) {
+            boolean free = true;
+            for (int i = 0; i < depth; i++) {
+                free &= order[i] != l;
             }
-            Check.due("the most hours, m " + m, most, x.order(m, -1));
-            for (int i = 0; i < 4; i++) {
-                Check.due("its layer " + i + ", m " + m, best[i], x.order(m, i));
+            if (free) {
+                order[depth] = l;
+                tryOrders(layers, order, depth + 1, m, best);
             }
         }
     }
@@ -275,6 +299,13 @@ public final class ReckonTest {
         }
         Check.due("one more", -1, x.gauge(0, 0, 1, 10000));
         Check.due("a hundred", 100, x.count(7));
+
+        ClogHouse y = gauged();
+        for (int i = 0; i < 99; i++) {
+            y.gauge(0, 0, 1, 10000);
+        }
+        Check.due("the last", 99, y.gauge(0, 0, 25, 99));
+        Check.due("it counts as the others do", 99, y.barred(0, 0, 0));
     }
 
     private static ClogHouse gauged() {
