@@ -249,7 +249,6 @@ public final class ClogHouse {
         }
         for (int i = 0; i < n; i++) {
             now++;
-            books.openHour(now);
             for (int f = 0; f < filterCount; f++) {
                 decide(f);
             }
@@ -1242,14 +1241,8 @@ public final class ClogHouse {
         private final int[] carriedInAll = new int[SIZES];
         private final int[] outInAll = new int[SIZES];
         private final int[] roundInAll = new int[SIZES];
-        private int[] rows = new int[50 * A_HOUR];
-
-        /** The rows grow by doubling, since most houses never see their last HOUR. */
-        private void openHour(int hour) {
-            if (isWithin(hour, 1, LAST_HOUR) && rows.length < hour * A_HOUR) {
-                rows = Arrays.copyOf(rows, Math.min(LAST_HOUR * A_HOUR, 2 * rows.length));
-            }
-        }
+        /** HISTORY of all HOURS that there may be, made once: no call makes a row of its own. */
+        private final int[] rows = new int[LAST_HOUR * A_HOUR];
 
         private static int place(int what, int hour, int size) {
             return (hour - 1) * A_HOUR + what * SIZES + size;

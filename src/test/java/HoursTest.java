@@ -17,6 +17,7 @@ public final class HoursTest {
         promise19();
         promise20();
         promise21();
+        allHours();
         promise22();
         promise32();
         promise33();
@@ -397,6 +398,65 @@ public final class HoursTest {
         Check.due("500*(200/8)/1000 are held", 488, x.history(7, 2, 1));
         Check.due("OUT counts as ROUND does: 488 and 6", 7, x.breaks(1, 493));
         Check.due("not more", -1, x.breaks(1, 494));
+    }
+
+    /** Promises 20 and 21 over all 2,000 HOURS: their rows stand from the first to the last (some 270 calls). */
+    private static void allHours() {
+        ClogHouse x = new ClogHouse();
+        bed(x, 20, 1000);
+        x.stream(7);
+        x.grain(3, 0, 0);
+        x.grain(7, 0, 0);
+        for (int block = 1; block <= 10; block++) {
+            x.come(3, 100 * block);
+            x.come(7, block);
+            if (block == 6) {
+                Check.due("SHUT behind HOUR 1,000", true, x.hand(0, 1));
+            }
+            Check.due("200 more, but for the last", 200 * block - block / 10, x.hours(200 - block / 10));
+        }
+        x.come(0, 9999);
+        x.come(3, 5000);
+        Check.due("the last HOUR", 2000, x.hours(1));
+        int[] asked = {1, 2, 50, 51, 100, 101, 199, 200, 201, 400, 401, 800, 801, 999, 1000, 1001, 1599, 1600, 1601,
+            1799, 1801, 1998, 1999};
+        for (int hour : asked) {
+            int block = (hour + 199) / 200;
+            for (int size : new int[] {0, 3, 7}) {
+                int many = size == 3 ? 100 * block : size == 7 ? block : 0;
+                Check.due("came in " + hour, many, x.history(hour, size, 0));
+                Check.due("came OUT in " + hour, block < 6 ? many : 0, x.history(hour, size, 1));
+                Check.due("went ROUND in " + hour, block < 6 ? 0 : many, x.history(hour, size, 2));
+            }
+        }
+        ofTheLast(x);
+        for (int block = 1; block <= 10; block++) {
+            Check.due("more than in the block ahead", 200 * block - 199, x.breaks(1, 101 * (block - 1)));
+            Check.due("of 7 alone", 200 * block - 199, x.breaks(7, block - 1));
+        }
+        Check.due("in the last one alone", 2000, x.breaks(1, 1010));
+        Check.due("1009 are not more than 1009", 1801, x.breaks(2, 1009));
+        Check.due("all of the last one", 2000, x.breaks(0, 9999 + 5000 + 10 - 1));
+        Check.due("never more", -1, x.breaks(0, 9999 + 5000 + 10));
+        Check.due("never more of 7", -1, x.breaks(7, 10));
+    }
+
+    private static void ofTheLast(ClogHouse x) {
+        Check.due("0 came in the last", 9999, x.history(2000, 0, 0));
+        Check.due("0 came OUT in the last", 0, x.history(2000, 0, 1));
+        Check.due("0 went ROUND in the last", 9999, x.history(2000, 0, 2));
+        Check.due("3 went ROUND in the last", 5000, x.history(2000, 3, 2));
+        Check.due("7 came in the last", 10, x.history(2000, 7, 0));
+        Check.due("7 went ROUND in the last", 10, x.history(2000, 7, 2));
+        Check.due("ahead of the first", -1, x.history(0, 3, 0));
+        Check.due("behind the last", -1, x.history(2001, 3, 0));
+        Check.due("no HOUR more", -1, x.hours(1));
+        Check.due("and the first is as it was", 100, x.history(1, 3, 1));
+        int sum = 0;
+        for (int block = 1; block <= 10; block++) {
+            sum += 200 * 100 * block;
+        }
+        Check.due("LED of 3 is the sum of all HOURS", sum - 1000 + 5000, x.led(3, 0));
     }
 
     private static void promise22() {

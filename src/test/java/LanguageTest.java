@@ -23,7 +23,11 @@ public final class LanguageTest {
     private static final String[] FORBIDDEN = {
         "->", "::", "\\bsynchronized\\b", "\\bassert\\b", "\\bfinally\\b", "\\btry\\b", "\\bcatch\\b", "Exact\\(",
         "\\bstatic \\{", "\\bSystem\\.(?!arraycopy)", "\\bMath\\.(?!max|min|abs)", "\\bthread\\b", "\\bRandom\\b",
-        "\\bprotected\\b", "\\bpackage\\b", "\\bdouble\\b", "\\bfloat\\b", "[^\\x00-\\x7f]"};
+        "\\bprotected\\b", "\\bpackage\\b", "\\bdouble\\b", "\\bfloat\\b", "[^\\x00-\\x7f]",
+        "copyOf", "\\bclone\\b", "toCharArray", "substring", "StringBuilder", "ArrayList"};
+    /** The methods, beside constructors, that may make objects: what they make is kept, and the document bounds it. */
+    private static final String MAKERS = ".* (filter|addCell|rules|worth)\\(.*";
+    private static final String CONSTRUCTOR = " *(public|private) [A-Z][A-Za-z]*\\(.*";
 
     public static void main(String[] args) throws IOException {
         face();
@@ -96,11 +100,15 @@ public final class LanguageTest {
             if (line.matches("import .*")) {
                 Check.due(line, true, line.matches("import java\\.util\\.(Arrays|NoSuchElementException);"));
             }
-            if (line.matches("( {4}| {8})(public|private) .*\\) \\{")) {
+            if (line.matches("( {4}| {8})(public|private) [^=;]*\\(.*")) {
                 begun = line;
                 length = 0;
             }
             length++;
+            if (begun != null && line.contains("new ")) {
+                Check.due("made only where it is kept: " + line.strip(), true,
+                    begun.matches(CONSTRUCTOR) || begun.matches(MAKERS));
+            }
             if (begun != null && line.matches("( {4}| {8})\\}")) {
                 Check.due("some sixty lines at most: " + begun.strip(), true, length <= 60);
                 begun = null;
