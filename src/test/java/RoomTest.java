@@ -12,7 +12,7 @@ public final class RoomTest {
     private static final long SLACK = 1000;
     private static final String[] KINDS = {"hours", "history", "breaks", "order", "cheapest", "share, drops",
         "back, barred", "fault", "worth", "feed, end", "hand", "push", "told, celled, held, led, digest, count",
-        "set, cost, grain, come, stream", "what is refused"};
+        "set, cost, grain, come, stream", "rule, ripe", "gauge", "what is refused"};
 
     private static com.sun.management.ThreadMXBean teller;
     private static long answers = 0;
@@ -75,6 +75,8 @@ public final class RoomTest {
                 + x.held(i % 8, i % 10, i % 8, i % 2) + x.led(i % 8, i % 6) + x.digest() + x.count(i % 10);
             case 13: return x.set(i % 8, i % 3, 1 + i) && x.cost(i % 20, i) && x.grain(i % 8, i % 3, i)
                 && x.come(i % 8, i) && x.stream(1 + i) ? 1 : 0;
+            case 14: return x.ripe(i % 8) + (x.rule(i % 8, i % 12) ? 1 : 0);
+            case 15: return x.gauge(i % 8, i % 10, 1, 1 + i);
             default: return x.filter() + x.cell(i % 8, 5, 5) + x.layer(5, 5) + x.gauge(8, 0, 1, 1) + x.rules();
         }
     }
@@ -96,7 +98,7 @@ public final class RoomTest {
         Check.due("a full house", true, all - (constructed - start) < BYTES_A_CALL);
     }
 
-    /** Eight FILTERS of ten CELLS with RULES, twelve texts, six LAYERS, 100 readings. */
+    /** Eight FILTERS of ten CELLS with RULES, twelve texts, six LAYERS, 50 readings. */
     private static ClogHouse fullHouse() {
         ClogHouse x = new ClogHouse();
         for (int f = 0; f < 8; f++) {
@@ -112,7 +114,7 @@ public final class RoomTest {
             x.rules();
         }
         feedRules(x);
-        for (int i = 0; i < 100; i++) {
+        for (int i = 0; i < 50; i++) {
             x.gauge(i % 8, i % 10, 1, 10000 - i);
         }
         for (int f = 0; f < 8; f++) {
