@@ -4,6 +4,7 @@ import java.util.NoSuchElementException;
 final class Check {
     private static int wrong = 0;
     private static int asked = 0;
+    private static String by = "";
 
     private Check() {
     }
@@ -12,12 +13,18 @@ final class Check {
         asked++;
         if (want != got) {
             wrong++;
-            System.out.println(call + " answered " + got + ", due is " + want);
+            System.out.println(by + call + " answered " + got + ", due is " + want);
         }
     }
 
     static void due(String call, boolean want, boolean got) {
         due(call, want ? 1L : 0L, got ? 1L : 0L);
+    }
+
+    /** From here on answers are due by these words of the document, under this promise. */
+    static void says(int promise, String words) {
+        by = "promise " + promise + ", \"" + words + "\": ";
+        Document.quote(promise, words);
     }
 
     /** Feeds a text to the TAPE, twenty bytes a call; answers what the last call did. */
@@ -43,6 +50,11 @@ final class Check {
         house.end(0);
         feed(house, text);
         return house.rules();
+    }
+
+    /** Gives a FILTER a text as its RULES. */
+    static void ruled(ClogHouse house, int filter, String text) {
+        house.rule(filter, rulesOf(house, text));
     }
 
     static boolean throwsNoSuch(ClogHouse house, int rules, int label) {
