@@ -21,11 +21,11 @@ final class Document {
     private Document() {
     }
 
-    /** The text in one line, without the marks round its blocks. */
+    /** The text in one line, without the marks of its blocks and parts. */
     private static String read() {
         try {
             String text = Files.readString(PLACE, StandardCharsets.UTF_8);
-            return text.replace("```text", " ").replace("```", " ").replaceAll("\\s+", " ");
+            return text.replace("```text", " ").replace("```", " ").replaceAll("==== \\d\\.", " ").replaceAll("\\s+", " ");
         } catch (IOException e) {
             System.out.println(PLACE + " can't be read: no quote is looked up in it");
             return "";

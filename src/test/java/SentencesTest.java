@@ -3,6 +3,10 @@ public final class SentencesTest {
     public static void main(String[] args) {
         FilterSentences.all();
         RuleSentences.all();
+        StreamSentences.all();
+        HourSentences.all();
+        ReckonSentences.all();
+        HouseSentences.all();
         Document.allQuoted();
         Check.finish();
     }
