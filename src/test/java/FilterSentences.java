@@ -151,6 +151,7 @@ final class FilterSentences {
             Check.due("1,000", 950, washed(size, 1, 1000).led(size, 2));
             Check.due("-1 changes nothing", 570, washed(size, 1, -1).led(size, 2));
             Check.due("1,001 changes nothing", 570, washed(size, 1, 1001).led(size, 2));
+            Check.due("600 at first: 999 * 600 / 1,000", 599, washed(size, 2, 0).led(size, 2));
         }
         Check.due("OFF of another SIZE is as it was", 570, alsoTold(1).led(3, 2));
     }
@@ -300,6 +301,7 @@ final class FilterSentences {
         Check.says(5, "PRESS (1 .. 1,000; 100 at first)");
         ClogHouse x = caked();
         Check.due("100 at first", 141, x.push(0, 10));
+        Check.due("100 at first: 500 * (400 + 1,000 * 239 / 100) / 100", 13950, x.push(0, 500));
         x.set(0, 0, 1000);
         Check.due("1,000", 140, x.push(0, 10));
         x.set(0, 0, 1001);
@@ -384,6 +386,16 @@ final class FilterSentences {
         Check.due("all are STUCK", 25, z.held(0, 1, 7, 1));
         Check.due("STUCK, too", 3, z.celled(0, 1, 2));
         Check.due("STUCK, too: held in all", 25, z.celled(0, 1, 4));
+        z.rule(0, ClogHouse.NONE);
+        z.hours(1);
+        Check.due("25 more: 50 in all", 0, z.celled(0, 1, 2));
+        z.grain(7, 2, 0);
+        z.grain(7, 1, 1000);
+        Check.ruled(z, 0, "w:1;u:600");
+        z.set(0, 1, 1000);
+        z.hours(1);
+        Check.due("15 of 25 are WASHED OUT: held in all", 35, z.celled(0, 1, 4));
+        Check.due("WIDTH behind the wash", 2, z.celled(0, 1, 2));
     }
 
     private static void resist() {
@@ -606,6 +618,9 @@ final class FilterSentences {
         x.cell(0, 20, 1000);
         Check.due("997 * 10,025 / 100", 99949, x.push(0, 997));
         Check.due("998 * 10,025 / 100 is 100,049", -1, x.push(0, 998));
+        x.cell(0, 3, 1000);
+        Check.due("897 * 11,136 / 100", 99889, x.push(0, 897));
+        Check.due("898 * 11,136 / 100 is 100,001", -1, x.push(0, 898));
         ClogHouse y = caked();
         y.set(0, 0, 1);
         Check.due("each p asks for 140 more", -1, y.push(0, 10));

@@ -276,6 +276,10 @@ final class HourSentences {
         Check.due("its GRAINS go ROUND", 10, z.history(1, 0, 2));
         Check.due("none is held", 0, z.led(0, 1));
         Check.due("HOURS since: it RAN in this HOUR", 1, z.told(0, 1));
+        z.hand(0, 2);
+        Check.ruled(z, 0, "r:1");
+        z.hours(1);
+        Check.due("behind that HOUR alone: it RESTS then", 3, z.told(0, 0));
     }
 
     private static void aheadOfTheGrains() {
@@ -539,6 +543,13 @@ final class HourSentences {
             Check.due("what " + far, false, x.hand(0, far));
         }
         Check.due("it is NEW still", 0, x.told(0, 0));
+        x.hand(0, 1);
+        Check.due("SHUT: what -1", false, x.hand(0, -1));
+        Check.due("SHUT: what 3", false, x.hand(0, 3));
+        for (int far : FAR) {
+            Check.due("SHUT: what " + far, false, x.hand(0, far));
+        }
+        Check.due("it is SHUT still", 4, x.told(0, 0));
     }
 
     private static void historyOfAll() {

@@ -14,6 +14,7 @@ final class ReckonSentences {
         orderHours();
         orderOut();
         orderBest();
+        orderOfWhole();
         orderAlone();
         orderBounds();
         costBounds();
@@ -225,6 +226,32 @@ final class ReckonSentences {
         orderOf("the narrow one on the top", z, 0, 1, 0);
     }
 
+    /** The last of 720 orders is the only best one, by PORES and TAKES of each LAYER. */
+    private static void orderOfWhole() {
+        Check.says(26, "of all orders of all LAYERS as CELLS of a FILTER");
+        int[] come = {9, 9, 6, 0, 0, 2, 0, 9};
+        int[][] layers = {{2, 11}, {3, 12}, {4, 11}, {5, 7}, {6, 8}, {5, 8}};
+        ClogHouse x = new ClogHouse();
+        ClogHouse y = new ClogHouse();
+        y.filter();
+        for (int i = 0; i < 6; i++) {
+            x.layer(layers[i][0], layers[i][1]);
+            y.cell(0, layers[5 - i][0], layers[5 - i][1]);
+        }
+        x.stream(33);
+        y.stream(33);
+        for (int size = 0; size <= 7; size++) {
+            x.grain(size, 0, 840);
+            y.grain(size, 0, 840);
+            x.come(size, come[size]);
+            y.come(size, come[size]);
+        }
+        Check.due("HOURS", 8, x.order(15, -1));
+        orderOf("the last of all orders", x, 15, 5, 4, 3, 2, 1, 0);
+        y.hours(20);
+        Check.due("such a FILTER goes 8 HOURS", 9, y.breaks(0, 15));
+    }
+
     private static void orderAlone() {
         Check.says(26, "a FILTER that RUNS alone from clean, with the STREAM of now, without RULES:");
         ClogHouse x = layers(1, 5, 10);
@@ -379,6 +406,8 @@ final class ReckonSentences {
         first("all is free: none", y, 60, 19, -1);
         Check.says(28, "CHEAPEST (0), FIRST (1). NONE: FIRST is never, T, age (0 .. 19), what.");
         first("FIRST is never", y, 1, 0, -1);
+        Check.due("what 2, though there is a FIRST", -1, x.cheapest(1, 19, 2));
+        Check.due("what -1, though there is a FIRST", -1, x.cheapest(1, 19, -1));
         Check.due("CHEAPEST is told then", 0, y.cheapest(1, 0, 0));
     }
 
@@ -476,6 +505,20 @@ final class ReckonSentences {
         Check.ruled(y, 0, "w:1;u:1000");
         y.hours(1);
         back("by the PORE of now: 11", y, 1, 14, 20);
+        ClogHouse z = read(10, 7, 1, 10000);
+        for (int f = 1; f <= 7; f++) {
+            StreamSentences.bed(z, 10, 7);
+            z.cell(f, 10, 7);
+            z.gauge(f, 1, 100, 123);
+            z.gauge(f, 0, 123, 156);
+        }
+        for (int f = 1; f <= 7; f++) {
+            Check.due("of that CELL alone, FILTER " + f, 7, z.back(f, 0, 0, 0));
+            Check.due("of that CELL alone, FILTER " + f, 0, z.back(f, 1, 0, 0));
+            Check.due("greatest of that CELL alone, FILTER " + f, 20, z.back(f, 0, 0, 1));
+            Check.due("greatest of that CELL alone, FILTER " + f, 13, z.back(f, 1, 0, 1));
+        }
+        back("no other FILTER's readings", z, 0, 0, 69);
         Check.says(30, "READ BACK: least (0), greatest (1). NONE: none, no such ones.");
         Check.due("what -1", -1, y.back(0, 0, 0, -1));
         Check.due("what 2", -1, y.back(0, 0, 0, 2));
@@ -542,6 +585,13 @@ final class ReckonSentences {
             Check.due("CELL " + far, -1, x.barred(0, far, 2));
             Check.due("FILTER " + far, -1, x.barred(far, 1, 2));
         }
+        ClogHouse z = read(10, 7, 1, 10000);
+        StreamSentences.bed(z, 10, 7);
+        StreamSentences.bed(z, 10, 7);
+        z.gauge(1, 0, 1, 99);
+        Check.due("of another FILTER", -1, z.barred(0, 0, 0));
+        Check.due("of that FILTER", 1, z.barred(1, 0, 0));
+        Check.due("of one without readings", -1, z.barred(2, 0, 0));
         ClogHouse y = read(10, 7, 1, 99);
         Check.due("the first alone", 0, y.barred(0, 0, 0));
         Check.ruled(y, 0, "w:1;u:1000");

@@ -69,6 +69,18 @@ final class RuleSentences {
         for (int i = 1; i <= 8; i++) {
             Check.due("twenty more", 20 * i, y.feed(FULL, FULL, FULL, FULL, FULL));
         }
+        y.end(159);
+        int[] row = new int[5];
+        for (int i = 0; i < 20; i++) {
+            for (int j = i + 1; j < 20; j++) {
+                java.util.Arrays.fill(row, 0);
+                row[i / 4] |= 1 << (24 - 8 * (i % 4));
+                row[j / 4] |= 1 << (24 - 8 * (j % 4));
+                int answer = y.feed(row[0], row[1], row[2], row[3], row[4]);
+                Check.due("159 and bytes " + i + " and " + j, -1, answer);
+            }
+        }
+        Check.due("none of them came", 159, y.count(8));
     }
 
     private static void endBounds() {
@@ -247,6 +259,11 @@ final class RuleSentences {
         fault(8, "w:((((((!1=1))))))?1");
         fault(11, "w:((((((1=1");
         fault(-1, "w:((((([1]=1)))))?1");
+        fault(-1, "w:(1=1&!!!!!1=1|!!!!!1=1)?1");
+        fault(12, "w:(1=1&!!!!!!1=1)?1");
+        fault(12, "w:(1=1|!!!!!!1=1)?1");
+        fault(-1, "w:((((1=1&!!1=1))))?1");
+        fault(12, "w:((((1=1&!!!1=1))))?1");
         fault(12, "w:(((((1=[1+[2]])))))?1");
         Check.due("beside one another they are not counted", -1,
             Check.faultOf("w:[1]+[1]+[1]+[1]+[1]+[1]+[1]+[[[[[[1]]]]]]"));

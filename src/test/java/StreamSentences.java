@@ -12,6 +12,7 @@ final class StreamSentences {
         hoursUpTo2000();
         whoRuns();
         changed();
+        changedOfEachSize();
         changedOnlyIf();
         washedOrRests();
         wornOut();
@@ -231,6 +232,26 @@ final class StreamSentences {
         }
     }
 
+    private static void changedOfEachSize() {
+        Check.says(18, "all that it holds, its CAKE too, is CARRIED OFF;");
+        ClogHouse x = new ClogHouse();
+        bed(x, 5, 1000);
+        x.stream(10);
+        for (int size = 0; size <= 7; size++) {
+            x.come(size, 1000);
+        }
+        x.hours(1);
+        for (int size = 0; size <= 7; size++) {
+            x.come(size, 0);
+        }
+        Check.ruled(x, 0, "c:1");
+        x.hours(1);
+        for (int size = 0; size <= 7; size++) {
+            Check.due("of SIZE " + size, size < 5 ? 200 / (5 - size) : 1000, x.led(size, 3));
+            Check.due("none of SIZE " + size + " is held", 0, x.led(size, 1));
+        }
+    }
+
     private static void changedOnlyIf() {
         Check.says(18, "if WORTH of c is unlike 0 it is CHANGED");
         String[] texts = {"c:0", "c:k=41?1", "w:0", "c:1-1"};
@@ -442,7 +463,8 @@ final class StreamSentences {
 
     private static void washU() {
         Check.says(18, "with u, WORTH of u (0 .. 1,000)");
-        Check.due("0", 0, washed(999, 0, 1000, ";u:0").led(7, 2));
+        Check.due("0", 0, washed(9999, 0, 1000, ";u:0").led(7, 2));
+        Check.due("1", 9, washed(9999, 0, 1000, ";u:1").led(7, 2));
         Check.due("none", 0, washed(999, 0, 1000, "").led(7, 2));
         Check.due("below 0", 0, washed(999, 0, 1000, ";u:0-1").led(7, 2));
         Check.due("far below 0", 0, washed(999, 0, 1000, ";u:0-9999*9999").led(7, 2));
@@ -450,6 +472,18 @@ final class StreamSentences {
         Check.due("1,001", 999, washed(999, 0, 1000, ";u:1001").led(7, 2));
         Check.due("far above", 999, washed(999, 0, 1000, ";u:9999*9999").led(7, 2));
         Check.due("with letters", 500, washed(1000, 0, 1000, ";u:h=1&n=0&i=0?500").led(7, 2));
+        ClogHouse each = new ClogHouse();
+        for (int f = 0; f < 3; f++) {
+            bed(each, 5, 10);
+        }
+        int rules = Check.rulesOf(each, "w:1;u:i=1?501");
+        for (int f = 0; f < 3; f++) {
+            each.rule(f, rules);
+        }
+        each.hours(1);
+        for (int f = 0; f < 3; f++) {
+            Check.due("with letters of each one: PORE of " + f, f == 1 ? 6 : 5, each.celled(f, 0, 0));
+        }
         Check.says(18, "the CAKE is WASHED OUT, all.");
         String[] texts = {"w:1", "w:1;u:0", "w:1;u:1000"};
         for (String text : texts) {
