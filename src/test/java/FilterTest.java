@@ -235,10 +235,12 @@ public final class FilterTest {
         for (int press : presses) {
             ClogHouse x = running(2, 1000, 37, 5);
             x.set(0, 0, press);
-            for (int hour = 1; hour <= 40; hour++) {
+            for (int hour = 1; hour <= 38; hour++) {
                 x.hours(1);
+                int bed = x.told(0, 4);
+                int cake = x.told(0, 3);
                 for (int q = 1; q <= 1000; q += 111) {
-                    Check.due("push, press " + press + " q " + q, least(x.told(0, 4), x.told(0, 3), press, q), x.push(0, q));
+                    Check.due("push, press " + press + " q " + q, least(bed, cake, press, q), x.push(0, q));
                 }
             }
         }

@@ -31,6 +31,7 @@ public final class ReckonTest {
         ClogHouse x = new ClogHouse();
         for (int n = 1; n <= 60; n++) {
             for (int k = 0; k <= n; k++) {
+                x = new ClogHouse();
                 for (int d = 0; d <= n; d++) {
                     BigInteger clean = ways(n - k, d);
                     BigInteger all = ways(n, d);
@@ -63,6 +64,7 @@ public final class ReckonTest {
         ClogHouse x = new ClogHouse();
         int[] ms = {1, 2, 3, 10, 999, 54321, 1000000};
         for (int n = 1; n <= 60; n++) {
+            x = new ClogHouse();
             for (int k = 0; k <= n; k++) {
                 for (int m : ms) {
                     Check.due("drops " + n + " " + k + " " + m, fewest(n, k, m), x.drops(n, k, m));
