@@ -603,7 +603,7 @@ final class FilterSentences {
         }
     }
 
-    private static long leastOf(long bed, long cake, long press, long q) {
+    static long leastOf(long bed, long cake, long press, long q) {
         for (long p = 0; p <= 100000; p++) {
             if (p >= q * (bed + cake * (100 + p / press) / 100) / 100) {
                 return p;

@@ -26,6 +26,7 @@ final class HourSentences {
         handBounds();
         historyOfAll();
         historyBounds();
+        historyOfTheLast();
         breaks();
         breaksNever();
         ripe();
@@ -595,6 +596,32 @@ final class HourSentences {
             Check.due("SIZE " + far, -1, x.history(1, far, 0));
             Check.due("what " + far, -1, x.history(1, 0, far));
         }
+    }
+
+    private static void historyOfTheLast() {
+        Check.says(20, "HISTORY of an HOUR (1 .. NOW)");
+        ClogHouse x = beds(10, 20);
+        x.grain(0, 0, 0);
+        x.come(0, 5);
+        for (int i = 1; i <= 9; i++) {
+            x.hours(200);
+        }
+        x.hours(198);
+        x.come(0, 6);
+        x.hours(1);
+        x.come(0, 7);
+        x.hours(1);
+        int[] many = {5, 5, 6, 7};
+        int[] hours = {1, 1998, 1999, 2000};
+        for (int i = 0; i < 4; i++) {
+            Check.due("came in " + hours[i], many[i], x.history(hours[i], 0, 0));
+            Check.due("OUT in " + hours[i], many[i], x.history(hours[i], 0, 1));
+            Check.due("ROUND in " + hours[i], 0, x.history(hours[i], 0, 2));
+        }
+        Check.due("HOUR 2,001", -1, x.history(2001, 0, 0));
+        Check.due("more than 5", 1999, x.breaks(0, 5));
+        Check.due("more than 6: in the last", 2000, x.breaks(0, 6));
+        Check.due("more than 7", -1, x.breaks(0, 7));
     }
 
     private static void breaks() {

@@ -13,6 +13,7 @@ final class ReckonSentences {
         layerBounds();
         orderHours();
         orderOut();
+        orderOfGreatCakes();
         orderBest();
         orderOfWhole();
         orderAlone();
@@ -194,6 +195,25 @@ final class ReckonSentences {
         x.come(1, 4);
         Check.due("of all SIZES: 4 on the CAKE and 2 OUT", 5, x.order(6, -1));
         Check.due("7 go ROUND", 100, x.order(7, -1));
+    }
+
+    /** Its PUSH ends it: 1 * (10,000 + CAKE * (100 + p / 100) / 100) / 100 is within 100,000 up to some 800,000. */
+    private static void orderOfGreatCakes() {
+        Check.says(26, "the most HOURS (100 at most) go by ahead of the first in which GRAINS come OUT or go ROUND");
+        ClogHouse x = new ClogHouse();
+        x.layer(1, 1000);
+        x.stream(1);
+        int coming = 0;
+        for (int size = 1; size <= 7; size++) {
+            x.come(size, 9999);
+            coming += 9999;
+        }
+        int hours = 0;
+        while (FilterSentences.leastOf(10000, (long) hours * coming, 100, 1) >= 0) {
+            hours++;
+        }
+        Check.due("its CAKE is above 500,000 then", true, hours * coming > 500000);
+        Check.due("HOURS", hours, x.order(0, -1));
     }
 
     private static void orderOf(String call, ClogHouse x, int m, int... want) {
