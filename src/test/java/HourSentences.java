@@ -191,6 +191,16 @@ final class HourSentences {
         Check.due("none to the lowest without a share", 50, z.celled(0, 1, 4));
         Check.due("9 / 2, and one", 5, z.told(1, 8));
         Check.due("9 / 2", 4, z.told(2, 8));
+        ClogHouse between = beds(9, 1, 1, 20, 20);
+        between.grain(0, 0, 0);
+        between.come(0, 8);
+        between.hours(1);
+        // weights 100, 100, 40,000 and 40,000; of 8 GRAINS 0, 3 and 3, and two are left over
+        shares(between, 0 + 1, 0, 4, 4);
+        Check.due("one to the lowest", 1, between.told(0, 8));
+        Check.due("none to one with weight, but without a share", 0, between.told(1, 8));
+        Check.due("one to the next lowest with a share", 4, between.told(2, 8));
+        Check.due("none is left for the last", 3, between.told(3, 8));
         ClogHouse most = beds(1000, 20, 20);
         most.grain(7, 0, 0);
         most.come(7, 9999);

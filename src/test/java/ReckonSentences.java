@@ -197,7 +197,7 @@ final class ReckonSentences {
         Check.due("7 go ROUND", 100, x.order(7, -1));
     }
 
-    /** Its PUSH ends it: 1 * (10,000 + CAKE * (100 + p / 100) / 100) / 100 is within 100,000 up to some 800,000. */
+    /** Its PUSH ends it: 1 * (10,000 + CAKE * (100 + p / 100) / 100) / 100 is within 100,000 up to some 850,000. */
     private static void orderOfGreatCakes() {
         Check.says(26, "the most HOURS (100 at most) go by ahead of the first in which GRAINS come OUT or go ROUND");
         ClogHouse x = new ClogHouse();
